@@ -32,7 +32,9 @@ public final class TemplateProcessor {
     private static final int AXIS_ENTRIES = 216, TABLE_ENTRIES = 5376;
 
     private static final int WANT_NUMBER = 0, WANT_PATH = 1, WANT_MORE_PATH = 2, WANT_CLOSE = 3;
-    private static final int WANT_BODY = 4, WANT_END = 5, WANTS = 128;
+    private static final int WANT_BODY = 4, WANT_END = 5, WANT_NOTHING = 6;
+    /** More than 30 tokens can want: each takes one want away and brings at most four. */
+    private static final int WANTS = 128;
 
     /** In place of a body's cell: the nodes of the list are handled by rules. */
     private static final int BY_RULES = -1;
@@ -148,10 +150,7 @@ public final class TemplateProcessor {
         if (!isRule(r)) {
             return BAD;
         }
-        wantedCount = 0;
-        want(WANT_BODY);
-        want(WANT_PATH);
-        boolean allowed = draftIsAllowed();
+        boolean allowed = draftIs(WANT_PATH, WANT_BODY);
         if (allowed) {
             copyDraft(r * SLOT);
             priorities[r] = priority;
@@ -180,9 +179,7 @@ public final class TemplateProcessor {
         if (!isNode(node)) {
             return BAD;
         }
-        wantedCount = 0;
-        want(WANT_PATH);
-        if (!draftIsAllowed()) {
+        if (!draftIs(WANT_PATH, WANT_NOTHING)) {
             return -SYNTAX;
         }
         tabulate(DRAFT, CELLS);
@@ -193,9 +190,7 @@ public final class TemplateProcessor {
         if (!isNode(node)) {
             return NO_SUCH_NODE;
         }
-        wantedCount = 0;
-        want(WANT_NUMBER);
-        if (!draftIsAllowed()) {
+        if (!draftIs(WANT_NUMBER, WANT_NOTHING)) {
             return NO_NUMBER;
         }
         tabulate(DRAFT, CELLS);
@@ -288,8 +283,11 @@ public final class TemplateProcessor {
         }
     }
 
-    private boolean draftIsAllowed() {
+    private boolean draftIs(int first, int second) {
         inCondition = false;
+        wantedCount = 0;
+        want(second);
+        want(first);
         for (int index = 0; index < draftLength; index++) {
             if (!takes(kinds[DRAFT + index])) {
                 wrongToken = index;
@@ -297,12 +295,16 @@ public final class TemplateProcessor {
             }
         }
         for (int left = 0; left < wantedCount; left++) {
-            if (wanted[left] != WANT_MORE_PATH && wanted[left] != WANT_BODY) {
+            if (!mayStayOut(wanted[left])) {
                 wrongToken = draftLength;
                 return false;
             }
         }
         return true;
+    }
+
+    private boolean mayStayOut(int what) {
+        return what == WANT_MORE_PATH || what == WANT_BODY || what == WANT_NOTHING;
     }
 
     private boolean takes(int kind) {
@@ -632,7 +634,6 @@ public final class TemplateProcessor {
             return;
         }
         listLeft[depth] = nodes;
-        listNode[depth] = 0;
         listPosition[depth] = 0;
         listSize[depth] = nodesIn(nodes);
         listBody[depth] = body;

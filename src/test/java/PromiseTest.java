@@ -145,6 +145,12 @@ public final class PromiseTest {
     isNumber(x, "own", 7, -4);
     selects(x, "descendant:3", 0);
     selects(x, "descendant:5", 0, 7);
+    for (int name = 0; name < 6; name++) {
+      due("name " + name, x.relabel(7, name, 50 + name), true);
+      selects(x, "child:* [ same own " + (50 + name) + " ] self:" + name, 0, 7);
+      selects(x, "self:" + (name + 1) % 6, 7);
+      selects(x, "self:" + (name + 5) % 6, 7);
+    }
     TemplateProcessor empty = new TemplateProcessor();
     due("no nodes", empty.relabel(0, 0, 0), false);
     empty.open(0, 0);
@@ -198,10 +204,12 @@ public final class PromiseTest {
     puts(x, OK, 1, 1, 3, 1000000, 2000000);
     give(x, 5, 0, "self:* text:2");
     puts(x, OK, 1, 2);
-    Notation.draft(x, "self:* text:1 text:2 text:3");
+    Notation.draft(x, "self:* self:* text:2 text:3");
     x.rule(0, 1);
-    give(x, 0, 1, "self:* text:4");
-    puts(x, OK, 1, 4);
+    x.token(15, 6);
+    due("a shorter draft behind it", x.select(3), 8);
+    due("a shorter rule behind it", x.rule(0, 1), OK);
+    puts(x, OK, 1);
   }
 
   private static void placing() {
@@ -249,9 +257,22 @@ public final class PromiseTest {
     wrongNumber("sum self:* [ first child:* [ 1 ] ]", 5);
     wrongNumber("add 1 2 end", 3);
     TemplateProcessor x = tree();
-    Notation.draft(x, "self:* self:* [ ]");
+    Notation.draft(x, "self:* self:* [");
     x.select(0);
     due("of select", x.place(), 3);
+    selects(x, "self:* [ 1 ]", 0, 0);
+    Notation.draft(x, "count self:* self:* [ ]");
+    x.number(0);
+    due("of number", x.place(), 4);
+    isNumber(x, "count self:* [ 1 ]", 0, 1);
+    Notation.draft(x, "self:* each self:* [ 1");
+    x.rule(0, 0);
+    due("of rule", x.place(), 5);
+    give(x, 0, 0, "self:* [ 1 ]");
+    Notation.draft(x, "self:* self:* [ ]");
+    x.select(0);
+    due("of select again", x.place(), 3);
+    longest();
     give(x, 0, 0, "self:*");
     selects(x, "self:*", 0, 0);
     isNumber(x, "1", 0, 1);
@@ -260,6 +281,22 @@ public final class PromiseTest {
     Notation.draft(x, "self:* self:*");
     x.rule(9, 0);
     due("after BAD", x.place(), 3);
+  }
+
+  /** Thirty tokens: as many as a draft can have, in the forms that leave the most open. */
+  private static void longest() {
+    wrongNumber("add ".repeat(30).trim(), 30);
+    wrongRule("self:*" + " element:1".repeat(29), 30);
+    wrongRule("self:*" + " each self:*".repeat(14) + " each", 30);
+    wrongRule("self:*" + " if 1".repeat(14) + " end", 30);
+    TemplateProcessor x = tree();
+    isNumber(x, "not ".repeat(29) + "0", 0, 1);
+    isNumber(x, "sub 1 ".repeat(14) + "5", 0, 5);
+    selects(x, "self:* ".repeat(29) + "child:*", 0, 1, 5, 7);
+    give(x, 0, 0, "self:0" + " element:1".repeat(14) + " end".repeat(14) + " text:3");
+    due("transform", x.transform(), OK);
+    due("the last of it", x.output(28), 3);
+    due("an end of it", x.output(27), 2000000);
   }
 
   private static void dropping() {
@@ -322,6 +359,12 @@ public final class PromiseTest {
     due("all children", whole.select(0), 0xFFFFFE);
     Notation.draft(whole, "before:* [ same pos last ]");
     due("farthest before", whole.select(23), 2);
+    Notation.draft(whole, "ahead:*");
+    due("all ahead", whole.select(23), 0x7FFFFE);
+    Notation.draft(whole, "behind:* [ same pos last ]");
+    due("farthest behind", whole.select(1), 1 << 23);
+    Notation.draft(whole, "ancestor:* child:* [ count ahead:* ]");
+    due("all but the first", whole.select(5), 0xFFFFFC);
   }
 
   private static void numbering() {
@@ -334,6 +377,7 @@ public final class PromiseTest {
     isNumber(x, "sum descendant:2", 0, 19);
     isNumber(x, "first descendant:2", 0, 5);
     isNumber(x, "first ancestor:*", 4, 10);
+    isNumber(x, "sum ancestor:*", 4, 17);
     isNumber(x, "first child:*", 4, 0);
     isNumber(x, "sum child:*", 4, 0);
     isNumber(x, "count child:* [ less own 5 ] child:* [ same pos last ]", 0, 2);
@@ -410,6 +454,8 @@ public final class PromiseTest {
     puts(x, OK, 1, 2);
     give(x, 2, 1, "self:0 if 0 element:1 text:1 end if 1 text:1 end end text:5 if -1 element:2 if 1 end end end");
     puts(x, OK, 1, 5, 1000002, 2000000);
+    give(x, 2, 1, "self:0 element:1 end element:2 element:3 end text:4 end if 1 element:5 end end");
+    puts(x, OK, 1, 1000001, 2000000, 1000002, 1000003, 2000000, 4, 2000000, 1000005, 2000000);
     give(x, 2, 1, "self:0 each child:1 each child:2 value own value pos end value pos value own end");
     puts(x, OK, 6, 5, 1, 6, 2, 1, 1, 8, 1, 2, 2);
     TemplateProcessor open = new TemplateProcessor();
