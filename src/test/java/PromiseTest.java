@@ -338,6 +338,8 @@ public final class PromiseTest {
     selects(x, "child:* [ same pos 1 ]", 0, 1);
     selects(x, "child:* [ same pos last ]", 0, 7);
     selects(x, "ancestor:* [ same pos 1 ]", 4, 3);
+    selects(x, "ancestor:* [ same pos last ]", 4, 0);
+    selects(x, "parent:* [ same pos 1 ]", 5, 0);
     selects(x, "before:* [ same pos 1 ]", 7, 5);
     selects(x, "ahead:* [ same pos 1 ]", 7, 6);
     selects(x, "behind:* [ same pos 1 ]", 3, 5);
