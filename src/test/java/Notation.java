@@ -20,7 +20,7 @@ final class Notation {
     return new int[] {15, 8 * AXES.indexOf(parts[0]) + test};
   }
 
-  static void draft(TemplateProcessor x, String words) {
+  static void draft(Probe x, String words) {
     x.wipe();
     for (String word : words.split(" ")) {
       if (word.isEmpty()) continue;
@@ -30,7 +30,7 @@ final class Notation {
   }
 
   /** "1=5" opens a node with name 1 and value 5, "." closes one. */
-  static void build(TemplateProcessor x, String words) {
+  static void build(Probe x, String words) {
     x.clear();
     for (String word : words.split(" ")) {
       if (word.equals(".")) {

@@ -4,76 +4,33 @@ public final class PromiseTest {
   private static final int INT_MAX = Integer.MAX_VALUE, INT_MIN = Integer.MIN_VALUE;
   // 0(name 0, value 10): 1(1, 1): 2(2, 5), 3(2, 6): 4(0, 7); 5(1, 2): 6(2, 8); 7(3, 9)
   private static final String TREE = "0=10 1=1 2=5 . 2=6 0=7 . . . 1=2 2=8 . . 3=9 . .";
-  private static int wrong = 0;
-  private static int promise = 0;
 
-  private static void due(String what, long got, long want) {
-    if (got == want) return;
-    wrong++;
-    System.out.println("promise " + promise + ": " + what + " answered " + got + ", due is " + want);
-  }
+  private static void due(String what, long got, long want) { Check.due(what, got, want); }
 
-  private static void due(String what, boolean got, boolean want) {
-    due(what, got ? 1 : 0, want ? 1 : 0);
-  }
+  private static void due(String what, boolean got, boolean want) { Check.due(what, got, want); }
 
-  private static TemplateProcessor tree() {
-    TemplateProcessor x = new TemplateProcessor();
-    Notation.build(x, TREE);
-    return x;
-  }
-
-  private static void selects(TemplateProcessor x, String path, int node, int... nodes) {
-    int set = 0;
-    for (int k : nodes) set |= 1 << k;
-    Notation.draft(x, path);
-    due(path + " from " + node, x.select(node), set);
-  }
-
-  private static void isNumber(TemplateProcessor x, String words, int node, long want) {
-    Notation.draft(x, words);
-    due(words + " for " + node, x.number(node), want);
-  }
-
-  private static void give(TemplateProcessor x, int r, int priority, String words) {
-    Notation.draft(x, words);
-    due("rule " + r + " " + words, x.rule(r, priority), OK);
-  }
-
-  private static void puts(TemplateProcessor x, int outcome, int steps, int... numbers) {
-    due("transform", x.transform(), outcome);
-    due("steps", x.steps(), steps);
-    due("size", x.size(), numbers.length);
-    for (int k = 0; k < numbers.length && k < 60; k++) due("output " + k, x.output(k), numbers[k]);
-    due("output behind the last", x.output(numbers.length), 0);
-  }
+  private static Probe tree() { return Probe.of(TREE); }
 
   private static void wrongRule(String words, int place) {
-    TemplateProcessor x = new TemplateProcessor();
-    Notation.draft(x, words);
-    due("rule of " + words, x.rule(0, 0), SYNTAX);
-    due("place in " + words, x.place(), place);
+    Probe x = new Probe();
+    x.noRule(words, place);
     due("tokens left of " + words, x.wipe(), 0);
   }
 
   private static void wrongPath(String words, int place) {
-    TemplateProcessor x = tree();
-    Notation.draft(x, words);
-    due("select of " + words, x.select(0), -SYNTAX);
-    due("place in " + words, x.place(), place);
+    Probe x = tree();
+    x.noPath(words, place);
     due("tokens left of " + words, x.wipe(), words.isEmpty() ? 0 : words.split(" ").length);
   }
 
   private static void wrongNumber(String words, int place) {
-    TemplateProcessor x = tree();
-    Notation.draft(x, words);
-    due("number of " + words, x.number(0), Long.MIN_VALUE + 1);
-    due("place in " + words, x.place(), place);
+    Probe x = tree();
+    x.noNumber(words, place);
     due("tokens left of " + words, x.wipe(), words.isEmpty() ? 0 : words.split(" ").length);
   }
 
   private static void newObject() {
-    TemplateProcessor x = new TemplateProcessor();
+    Probe x = new Probe();
     due("close", x.close(), BAD);
     due("clear", x.clear(), 0);
     due("wipe", x.wipe(), 0);
@@ -87,7 +44,7 @@ public final class PromiseTest {
   }
 
   private static void opening() {
-    TemplateProcessor x = new TemplateProcessor();
+    Probe x = new Probe();
     due("name 6", x.open(6, 0), BAD);
     due("name -1", x.open(-1, 0), BAD);
     due("root", x.open(0, INT_MIN), 0);
@@ -95,7 +52,7 @@ public final class PromiseTest {
     due("name 6 inside", x.open(6, 0), BAD);
     due("close 1", x.close(), 1);
     due("second child", x.open(1, 3), 2);
-    selects(x, "child:*", 0, 1, 2);
+    x.selects("child:*", 0, 1, 2);
     x.close();
     x.close();
     due("beside the root", x.open(0, 0), BAD);
@@ -106,7 +63,7 @@ public final class PromiseTest {
   }
 
   private static void closing() {
-    TemplateProcessor x = new TemplateProcessor();
+    Probe x = new Probe();
     x.open(0, 0);
     x.open(0, 0);
     due("inner", x.close(), 1);
@@ -117,9 +74,9 @@ public final class PromiseTest {
   }
 
   private static void clearing() {
-    TemplateProcessor x = tree();
-    give(x, 2, 0, "self:* text:3");
-    Notation.draft(x, "self:* self:*");
+    Probe x = tree();
+    x.gives(2, 0, "self:* text:3");
+    x.draft("self:* self:*");
     due("transform", x.transform(), OK);
     due("clear", x.clear(), 8);
     due("again", x.clear(), 0);
@@ -134,31 +91,31 @@ public final class PromiseTest {
   }
 
   private static void relabelling() {
-    TemplateProcessor x = tree();
+    Probe x = tree();
     due("node 8", x.relabel(8, 0, 0), false);
     due("node -1", x.relabel(-1, 0, 0), false);
     due("name 6", x.relabel(7, 6, 4), false);
     due("name -1", x.relabel(7, -1, 4), false);
-    isNumber(x, "own", 7, 9);
-    selects(x, "descendant:3", 0, 7);
+    x.isNumber("own", 7, 9);
+    x.selects("descendant:3", 0, 7);
     due("node 7", x.relabel(7, 5, -4), true);
-    isNumber(x, "own", 7, -4);
-    selects(x, "descendant:3", 0);
-    selects(x, "descendant:5", 0, 7);
+    x.isNumber("own", 7, -4);
+    x.selects("descendant:3", 0);
+    x.selects("descendant:5", 0, 7);
     for (int name = 0; name < 6; name++) {
       due("name " + name, x.relabel(7, name, 50 + name), true);
-      selects(x, "child:* [ same own " + (50 + name) + " ] self:" + name, 0, 7);
-      selects(x, "self:" + (name + 1) % 6, 7);
-      selects(x, "self:" + (name + 5) % 6, 7);
+      x.selects("child:* [ same own " + (50 + name) + " ] self:" + name, 0, 7);
+      x.selects("self:" + (name + 1) % 6, 7);
+      x.selects("self:" + (name + 5) % 6, 7);
     }
-    TemplateProcessor empty = new TemplateProcessor();
+    Probe empty = new Probe();
     due("no nodes", empty.relabel(0, 0, 0), false);
     empty.open(0, 0);
     due("an open node", empty.relabel(0, 1, 1), true);
   }
 
   private static void appending() {
-    TemplateProcessor x = new TemplateProcessor();
+    Probe x = new Probe();
     int[] kinds = {-1, 18, 19, 27, INT_MAX, INT_MIN};
     for (int kind : kinds) due("kind " + kind, x.token(kind, 0), false);
     int[] noSteps = {-1, 7, 15, 71, 72, 78, -8, INT_MAX, INT_MIN};
@@ -181,35 +138,35 @@ public final class PromiseTest {
   }
 
   private static void wiping() {
-    TemplateProcessor x = tree();
-    Notation.draft(x, "child:* child:*");
+    Probe x = tree();
+    x.draft("child:* child:*");
     due("two", x.wipe(), 2);
     due("none", x.wipe(), 0);
-    selects(x, "self:*", 3, 3);
+    x.selects("self:*", 3, 3);
     due("one", x.wipe(), 1);
   }
 
   private static void giving() {
-    TemplateProcessor x = tree();
-    Notation.draft(x, "self:* text:1");
+    Probe x = tree();
+    x.draft("self:* text:1");
     due("rule 6", x.rule(6, 0), BAD);
     due("rule -1", x.rule(-1, 0), BAD);
     due("draft stays", x.wipe(), 2);
-    give(x, 5, 0, "self:*");
+    x.gives(5, 0, "self:*");
     due("draft is empty", x.wipe(), 0);
-    puts(x, OK, 1);
-    give(x, 5, 0, "self:* [ own ] [ 1 ] self:0 text:1 value add 1 2 element:0 if 0 end end each child:* [ 0 ] end");
-    Notation.draft(x, "self:* text:2 pos");
+    x.puts(OK, 1);
+    x.gives(5, 0, "self:* [ own ] [ 1 ] self:0 text:1 value add 1 2 element:0 if 0 end end each child:* [ 0 ] end");
+    x.draft("self:* text:2 pos");
     due("wrong one", x.rule(5, 9), SYNTAX);
-    puts(x, OK, 1, 1, 3, 1000000, 2000000);
-    give(x, 5, 0, "self:* text:2");
-    puts(x, OK, 1, 2);
-    Notation.draft(x, "self:* self:* text:2 text:3");
+    x.puts(OK, 1, 1, 3, 1000000, 2000000);
+    x.gives(5, 0, "self:* text:2");
+    x.puts(OK, 1, 2);
+    x.draft("self:* self:* text:2 text:3");
     x.rule(0, 1);
     x.token(15, 6);
     due("a shorter draft behind it", x.select(3), 8);
     due("a shorter rule behind it", x.rule(0, 1), OK);
-    puts(x, OK, 1);
+    x.puts(OK, 1);
   }
 
   private static void placing() {
@@ -256,29 +213,29 @@ public final class PromiseTest {
     wrongNumber("count self:* [ 1", 4);
     wrongNumber("sum self:* [ first child:* [ 1 ] ]", 5);
     wrongNumber("add 1 2 end", 3);
-    TemplateProcessor x = tree();
-    Notation.draft(x, "self:* self:* [");
+    Probe x = tree();
+    x.draft("self:* self:* [");
     x.select(0);
     due("of select", x.place(), 3);
-    selects(x, "self:* [ 1 ]", 0, 0);
-    Notation.draft(x, "count self:* self:* [ ]");
+    x.selects("self:* [ 1 ]", 0, 0);
+    x.draft("count self:* self:* [ ]");
     x.number(0);
     due("of number", x.place(), 4);
-    isNumber(x, "count self:* [ 1 ]", 0, 1);
-    Notation.draft(x, "self:* each self:* [ 1");
+    x.isNumber("count self:* [ 1 ]", 0, 1);
+    x.draft("self:* each self:* [ 1");
     x.rule(0, 0);
     due("of rule", x.place(), 5);
-    give(x, 0, 0, "self:* [ 1 ]");
-    Notation.draft(x, "self:* self:* [ ]");
+    x.gives(0, 0, "self:* [ 1 ]");
+    x.draft("self:* self:* [ ]");
     x.select(0);
     due("of select again", x.place(), 3);
     longest();
-    give(x, 0, 0, "self:*");
-    selects(x, "self:*", 0, 0);
-    isNumber(x, "1", 0, 1);
+    x.gives(0, 0, "self:*");
+    x.selects("self:*", 0, 0);
+    x.isNumber("1", 0, 1);
     x.clear();
     due("of the latest that was wrong", x.place(), 3);
-    Notation.draft(x, "self:* self:*");
+    x.draft("self:* self:*");
     x.rule(9, 0);
     due("after BAD", x.place(), 3);
   }
@@ -289,193 +246,193 @@ public final class PromiseTest {
     wrongRule("self:*" + " element:1".repeat(29), 30);
     wrongRule("self:*" + " each self:*".repeat(14) + " each", 30);
     wrongRule("self:*" + " if 1".repeat(14) + " end", 30);
-    TemplateProcessor x = tree();
-    isNumber(x, "not ".repeat(29) + "0", 0, 1);
-    isNumber(x, "sub 1 ".repeat(14) + "5", 0, 5);
-    selects(x, "self:* ".repeat(29) + "child:*", 0, 1, 5, 7);
-    give(x, 0, 0, "self:0" + " element:1".repeat(14) + " end".repeat(14) + " text:3");
+    Probe x = tree();
+    x.isNumber("not ".repeat(29) + "0", 0, 1);
+    x.isNumber("sub 1 ".repeat(14) + "5", 0, 5);
+    x.selects("self:* ".repeat(29) + "child:*", 0, 1, 5, 7);
+    x.gives(0, 0, "self:0" + " element:1".repeat(14) + " end".repeat(14) + " text:3");
     due("transform", x.transform(), OK);
     due("the last of it", x.output(28), 3);
     due("an end of it", x.output(27), 2000000);
   }
 
   private static void dropping() {
-    TemplateProcessor x = tree();
-    give(x, 0, 0, "self:* text:1");
-    give(x, 5, 1, "self:* text:2");
+    Probe x = tree();
+    x.gives(0, 0, "self:* text:1");
+    x.gives(5, 1, "self:* text:2");
     due("rule 6", x.drop(6), false);
     due("rule -1", x.drop(-1), false);
     due("rule 1", x.drop(1), false);
     due("rule 5", x.drop(5), true);
     due("rule 5 again", x.drop(5), false);
-    puts(x, OK, 1, 1);
+    x.puts(OK, 1, 1);
     due("rule 0", x.drop(0), true);
     due("none is left", x.ruleFor(0), -1);
   }
 
   private static void selecting() {
-    TemplateProcessor x = tree();
-    selects(x, "self:*", 3, 3);
-    selects(x, "self:1", 3);
-    selects(x, "child:*", 0, 1, 5, 7);
-    selects(x, "child:1", 0, 1, 5);
-    selects(x, "child:*", 4);
-    selects(x, "parent:*", 4, 3);
-    selects(x, "parent:1", 4);
-    selects(x, "parent:*", 0);
-    selects(x, "descendant:*", 1, 2, 3, 4);
-    selects(x, "ancestor:*", 4, 0, 1, 3);
-    selects(x, "next:*", 1, 5, 7);
-    selects(x, "next:*", 0);
-    selects(x, "before:*", 7, 1, 5);
-    selects(x, "before:*", 0);
-    selects(x, "behind:*", 3, 5, 6, 7);
-    selects(x, "behind:*", 0);
-    selects(x, "ahead:*", 6, 1, 2, 3, 4);
-    selects(x, "ahead:*", 4, 2);
-    selects(x, "child:1 child:2", 0, 2, 3, 6);
-    selects(x, "descendant:* parent:*", 0, 0, 1, 3, 5);
-    selects(x, "child:* [ same pos 1 ]", 0, 1);
-    selects(x, "child:* [ same pos last ]", 0, 7);
-    selects(x, "ancestor:* [ same pos 1 ]", 4, 3);
-    selects(x, "ancestor:* [ same pos last ]", 4, 0);
-    selects(x, "parent:* [ same pos 1 ]", 5, 0);
-    selects(x, "before:* [ same pos 1 ]", 7, 5);
-    selects(x, "ahead:* [ same pos 1 ]", 7, 6);
-    selects(x, "behind:* [ same pos 1 ]", 3, 5);
-    selects(x, "next:* [ same pos 1 ]", 1, 5);
-    selects(x, "descendant:* [ less 6 own ]", 0, 4, 6, 7);
-    selects(x, "descendant:* [ less 1 pos ] [ same pos 1 ]", 0, 2);
-    selects(x, "descendant:* [ same own 9 ] [ last ]", 0, 7);
-    selects(x, "descendant:2 [ same last 3 ] [ less pos 3 ] [ same last 2 ]", 0, 2, 3);
-    selects(x, "child:* child:* [ same pos 1 ]", 0, 2, 6);
-    selects(x, "child:* [ same count child:2 2 ]", 0, 1);
-    selects(x, "child:* [ sum child:2 child:0 ]", 0, 1);
+    Probe x = tree();
+    x.selects("self:*", 3, 3);
+    x.selects("self:1", 3);
+    x.selects("child:*", 0, 1, 5, 7);
+    x.selects("child:1", 0, 1, 5);
+    x.selects("child:*", 4);
+    x.selects("parent:*", 4, 3);
+    x.selects("parent:1", 4);
+    x.selects("parent:*", 0);
+    x.selects("descendant:*", 1, 2, 3, 4);
+    x.selects("ancestor:*", 4, 0, 1, 3);
+    x.selects("next:*", 1, 5, 7);
+    x.selects("next:*", 0);
+    x.selects("before:*", 7, 1, 5);
+    x.selects("before:*", 0);
+    x.selects("behind:*", 3, 5, 6, 7);
+    x.selects("behind:*", 0);
+    x.selects("ahead:*", 6, 1, 2, 3, 4);
+    x.selects("ahead:*", 4, 2);
+    x.selects("child:1 child:2", 0, 2, 3, 6);
+    x.selects("descendant:* parent:*", 0, 0, 1, 3, 5);
+    x.selects("child:* [ same pos 1 ]", 0, 1);
+    x.selects("child:* [ same pos last ]", 0, 7);
+    x.selects("ancestor:* [ same pos 1 ]", 4, 3);
+    x.selects("ancestor:* [ same pos last ]", 4, 0);
+    x.selects("parent:* [ same pos 1 ]", 5, 0);
+    x.selects("before:* [ same pos 1 ]", 7, 5);
+    x.selects("ahead:* [ same pos 1 ]", 7, 6);
+    x.selects("behind:* [ same pos 1 ]", 3, 5);
+    x.selects("next:* [ same pos 1 ]", 1, 5);
+    x.selects("descendant:* [ less 6 own ]", 0, 4, 6, 7);
+    x.selects("descendant:* [ less 1 pos ] [ same pos 1 ]", 0, 2);
+    x.selects("descendant:* [ same own 9 ] [ last ]", 0, 7);
+    x.selects("descendant:2 [ same last 3 ] [ less pos 3 ] [ same last 2 ]", 0, 2, 3);
+    x.selects("child:* child:* [ same pos 1 ]", 0, 2, 6);
+    x.selects("child:* [ same count child:2 2 ]", 0, 1);
+    x.selects("child:* [ sum child:2 child:0 ]", 0, 1);
     due("node 8", x.select(8), BAD);
     due("node -1", x.select(-1), BAD);
     due("draft stays", x.wipe(), 6);
-    TemplateProcessor whole = new TemplateProcessor();
+    Probe whole = new Probe();
     whole.open(0, 0);
     for (int k = 1; k < 24; k++) { whole.open(1, k); whole.close(); }
-    Notation.draft(whole, "child:*");
+    whole.draft("child:*");
     due("all children", whole.select(0), 0xFFFFFE);
-    Notation.draft(whole, "before:* [ same pos last ]");
+    whole.draft("before:* [ same pos last ]");
     due("farthest before", whole.select(23), 2);
-    Notation.draft(whole, "ahead:*");
+    whole.draft("ahead:*");
     due("all ahead", whole.select(23), 0x7FFFFE);
-    Notation.draft(whole, "behind:* [ same pos last ]");
+    whole.draft("behind:* [ same pos last ]");
     due("farthest behind", whole.select(1), 1 << 23);
-    Notation.draft(whole, "ancestor:* child:* [ count ahead:* ]");
+    whole.draft("ancestor:* child:* [ count ahead:* ]");
     due("all but the first", whole.select(5), 0xFFFFFC);
   }
 
   private static void numbering() {
-    TemplateProcessor x = tree();
-    isNumber(x, "-5", 0, -5);
-    isNumber(x, "pos", 7, 1);
-    isNumber(x, "last", 7, 1);
-    isNumber(x, "own", 6, 8);
-    isNumber(x, "count descendant:2", 0, 3);
-    isNumber(x, "sum descendant:2", 0, 19);
-    isNumber(x, "first descendant:2", 0, 5);
-    isNumber(x, "first ancestor:*", 4, 10);
-    isNumber(x, "sum ancestor:*", 4, 17);
-    isNumber(x, "first child:*", 4, 0);
-    isNumber(x, "sum child:*", 4, 0);
-    isNumber(x, "count child:* [ less own 5 ] child:* [ same pos last ]", 0, 2);
-    isNumber(x, "sub 3 10", 0, -7);
-    isNumber(x, "mul add 2 3 sub 9 own", 7, 0);
-    isNumber(x, "sub sub 9 3 sub 2 1", 0, 5);
-    isNumber(x, "less 1 2", 0, 1);
-    isNumber(x, "less 2 2", 0, 0);
-    isNumber(x, "less -2147483648 2147483647", 0, 1);
-    isNumber(x, "same 2 2", 0, 1);
-    isNumber(x, "same 2 -2", 0, 0);
-    isNumber(x, "and 2 4", 0, 1);
-    isNumber(x, "and 2 0", 0, 0);
-    isNumber(x, "and 0 2", 0, 0);
-    isNumber(x, "or 0 -4", 0, 1);
-    isNumber(x, "or 4 0", 0, 1);
-    isNumber(x, "or 0 0", 0, 0);
-    isNumber(x, "not 7", 0, 0);
-    isNumber(x, "not 0", 0, 1);
-    isNumber(x, "add 2147483647 1", 0, INT_MIN);
-    isNumber(x, "sub -2147483648 1", 0, INT_MAX);
-    isNumber(x, "mul 65536 65536", 0, 0);
+    Probe x = tree();
+    x.isNumber("-5", 0, -5);
+    x.isNumber("pos", 7, 1);
+    x.isNumber("last", 7, 1);
+    x.isNumber("own", 6, 8);
+    x.isNumber("count descendant:2", 0, 3);
+    x.isNumber("sum descendant:2", 0, 19);
+    x.isNumber("first descendant:2", 0, 5);
+    x.isNumber("first ancestor:*", 4, 10);
+    x.isNumber("sum ancestor:*", 4, 17);
+    x.isNumber("first child:*", 4, 0);
+    x.isNumber("sum child:*", 4, 0);
+    x.isNumber("count child:* [ less own 5 ] child:* [ same pos last ]", 0, 2);
+    x.isNumber("sub 3 10", 0, -7);
+    x.isNumber("mul add 2 3 sub 9 own", 7, 0);
+    x.isNumber("sub sub 9 3 sub 2 1", 0, 5);
+    x.isNumber("less 1 2", 0, 1);
+    x.isNumber("less 2 2", 0, 0);
+    x.isNumber("less -2147483648 2147483647", 0, 1);
+    x.isNumber("same 2 2", 0, 1);
+    x.isNumber("same 2 -2", 0, 0);
+    x.isNumber("and 2 4", 0, 1);
+    x.isNumber("and 2 0", 0, 0);
+    x.isNumber("and 0 2", 0, 0);
+    x.isNumber("or 0 -4", 0, 1);
+    x.isNumber("or 4 0", 0, 1);
+    x.isNumber("or 0 0", 0, 0);
+    x.isNumber("not 7", 0, 0);
+    x.isNumber("not 0", 0, 1);
+    x.isNumber("add 2147483647 1", 0, INT_MIN);
+    x.isNumber("sub -2147483648 1", 0, INT_MAX);
+    x.isNumber("mul 65536 65536", 0, 0);
     x.relabel(2, 2, INT_MAX);
-    isNumber(x, "sum descendant:2", 0, INT_MIN + 13L);
-    isNumber(x, "add sum self:* sub count child:* [ own ] first next:*", 1, 1 + 2 - 2);
+    x.isNumber("sum descendant:2", 0, INT_MIN + 13L);
+    x.isNumber("add sum self:* sub count child:* [ own ] first next:*", 1, 1 + 2 - 2);
     due("node 8", x.number(8), Long.MIN_VALUE);
     due("node -1", x.number(-1), Long.MIN_VALUE);
     due("draft stays", x.wipe(), 11);
   }
 
   private static void choosing() {
-    TemplateProcessor x = tree();
+    Probe x = tree();
     due("no rules", x.ruleFor(0), -1);
     due("node 8", x.ruleFor(8), BAD - 1);
     due("node -1", x.ruleFor(-1), BAD - 1);
-    give(x, 0, 0, "self:2");
+    x.gives(0, 0, "self:2");
     due("by itself", x.ruleFor(2), 0);
     due("another name", x.ruleFor(1), -1);
-    give(x, 1, 1, "child:1 child:2");
+    x.gives(1, 1, "child:1 child:2");
     due("by an ancestor", x.ruleFor(6), 1);
-    give(x, 2, 1, "child:2");
+    x.gives(2, 1, "child:2");
     due("equal, given later", x.ruleFor(6), 2);
-    give(x, 1, 1, "child:1 child:2");
+    x.gives(1, 1, "child:1 child:2");
     due("given anew", x.ruleFor(6), 1);
-    Notation.draft(x, "child:2 pos");
+    x.draft("child:2 pos");
     x.rule(2, 5);
     due("a wrong one changes nothing", x.ruleFor(6), 1);
-    give(x, 1, -1, "child:1 child:2");
+    x.gives(1, -1, "child:1 child:2");
     due("a lower priority", x.ruleFor(6), 2);
-    give(x, 3, INT_MIN, "self:*");
+    x.gives(3, INT_MIN, "self:*");
     due("the lowest priority", x.ruleFor(6), 2);
     due("the lowest alone", x.ruleFor(0), 3);
-    give(x, 4, INT_MAX, "next:*");
+    x.gives(4, INT_MAX, "next:*");
     due("selected from no ancestor", x.ruleFor(5), 3);
-    give(x, 4, INT_MAX, "parent:*");
+    x.gives(4, INT_MAX, "parent:*");
     due("selected from a descendant", x.ruleFor(1), 3);
-    give(x, 4, INT_MAX, "child:* [ same pos 2 ] parent:* child:3");
+    x.gives(4, INT_MAX, "child:* [ same pos 2 ] parent:* child:3");
     due("over a detour", x.ruleFor(7), 4);
     due("not itself", x.ruleFor(5), 3);
   }
 
   private static void transforming() {
-    TemplateProcessor x = tree();
-    puts(x, OK, 8, 5, 7, 8, 9);
-    give(x, 0, 0, "self:1 element:4 value pos value last apply child:* end text:-1");
-    puts(x, OK, 8, 1000004, 1, 3, 5, 7, 2000000, -1, 1000004, 2, 3, 8, 2000000, -1, 9);
-    give(x, 1, 0, "self:2 value pos value last value count ancestor:*");
-    puts(x, OK, 7, 1000004, 1, 3, 1, 2, 2, 2, 2, 2, 2000000, -1, 1000004, 2, 3, 1, 1, 2, 2000000, -1, 9);
-    give(x, 2, 1, "self:0 each child:* if same pos last text:77 end value mul 10 pos value last end value pos");
-    puts(x, OK, 4, 10, 3, 20, 3, 77, 30, 3, 1);
-    give(x, 2, 1, "self:0 apply descendant:* ancestor:* [ 1 ] self:1");
-    puts(x, OK, 6, 1000004, 1, 2, 1, 2, 2, 2, 2, 2, 2000000, -1, 1000004, 2, 2, 1, 1, 2, 2000000, -1);
-    give(x, 2, 1, "self:0 apply behind:* each behind:* text:1 end text:2");
-    puts(x, OK, 1, 2);
-    give(x, 2, 1, "self:0 if 0 element:1 text:1 end if 1 text:1 end end text:5 if -1 element:2 if 1 end end end");
-    puts(x, OK, 1, 5, 1000002, 2000000);
-    give(x, 2, 1, "self:0 element:1 end element:2 element:3 end text:4 end if 1 element:5 end end");
-    puts(x, OK, 1, 1000001, 2000000, 1000002, 1000003, 2000000, 4, 2000000, 1000005, 2000000);
-    give(x, 2, 1, "self:0 each child:1 each child:2 value own value pos end value pos value own end");
-    puts(x, OK, 6, 5, 1, 6, 2, 1, 1, 8, 1, 2, 2);
-    TemplateProcessor open = new TemplateProcessor();
+    Probe x = tree();
+    x.puts(OK, 8, 5, 7, 8, 9);
+    x.gives(0, 0, "self:1 element:4 value pos value last apply child:* end text:-1");
+    x.puts(OK, 8, 1000004, 1, 3, 5, 7, 2000000, -1, 1000004, 2, 3, 8, 2000000, -1, 9);
+    x.gives(1, 0, "self:2 value pos value last value count ancestor:*");
+    x.puts(OK, 7, 1000004, 1, 3, 1, 2, 2, 2, 2, 2, 2000000, -1, 1000004, 2, 3, 1, 1, 2, 2000000, -1, 9);
+    x.gives(2, 1, "self:0 each child:* if same pos last text:77 end value mul 10 pos value last end value pos");
+    x.puts(OK, 4, 10, 3, 20, 3, 77, 30, 3, 1);
+    x.gives(2, 1, "self:0 apply descendant:* ancestor:* [ 1 ] self:1");
+    x.puts(OK, 6, 1000004, 1, 2, 1, 2, 2, 2, 2, 2, 2000000, -1, 1000004, 2, 2, 1, 1, 2, 2000000, -1);
+    x.gives(2, 1, "self:0 apply behind:* each behind:* text:1 end text:2");
+    x.puts(OK, 1, 2);
+    x.gives(2, 1, "self:0 if 0 element:1 text:1 end if 1 text:1 end end text:5 if -1 element:2 if 1 end end end");
+    x.puts(OK, 1, 5, 1000002, 2000000);
+    x.gives(2, 1, "self:0 element:1 end element:2 element:3 end text:4 end if 1 element:5 end end");
+    x.puts(OK, 1, 1000001, 2000000, 1000002, 1000003, 2000000, 4, 2000000, 1000005, 2000000);
+    x.gives(2, 1, "self:0 each child:1 each child:2 value own value pos end value pos value own end");
+    x.puts(OK, 6, 5, 1, 6, 2, 1, 1, 8, 1, 2, 2);
+    Probe open = new Probe();
     open.open(0, 1);
     open.open(0, 2);
-    puts(open, OK, 2, 2);
+    open.puts(OK, 2, 2);
     due("goes on", open.open(0, 3), 2);
   }
 
   private static void limits() {
-    TemplateProcessor x = new TemplateProcessor();
+    Probe x = new Probe();
     x.open(0, 5);
-    give(x, 0, 0, "self:* text:1 element:2 apply self:* end");
+    x.gives(0, 0, "self:* text:1 element:2 apply self:* end");
     due("self within self", x.transform(), DEEP);
     due("its steps", x.steps(), 12);
     due("its size", x.size(), 24);
-    give(x, 0, 0, "self:* text:1 if less pos 2 apply child:* end");
-    puts(x, OK, 1, 1);
+    x.gives(0, 0, "self:* text:1 if less pos 2 apply child:* end");
+    x.puts(OK, 1, 1);
     due("eleven more", deepest(11, "child:*"), OK);
     due("twelve more", deepest(12, "child:*"), DEEP);
     due("an empty list", deepest(11, "child:* apply child:*"), DEEP);
@@ -486,33 +443,33 @@ public final class PromiseTest {
 
   /** A chain of nodes, each of which but the last applies rules to the next one. */
   private static int deepest(int more, String paths) {
-    TemplateProcessor x = new TemplateProcessor();
+    Probe x = new Probe();
     for (int k = 0; k <= more; k++) x.open(k == more ? 1 : 0, k);
-    give(x, 0, 0, "self:0 apply child:*");
+    x.gives(0, 0, "self:0 apply child:*");
     String[] parts = paths.split(" ", 2);
-    give(x, 1, 0, "self:1 " + (parts.length > 1 ? parts[1] : "text:4"));
+    x.gives(1, 0, "self:1 " + (parts.length > 1 ? parts[1] : "text:4"));
     return x.transform();
   }
 
   private static void wide() {
-    TemplateProcessor x = new TemplateProcessor();
+    Probe x = new Probe();
     x.open(0, 0);
     for (int k = 1; k < 24; k++) { x.open(1, k); x.close(); }
-    give(x, 0, 0, "self:0 each child:* [ less pos 12 ] text:1 each next:* [ less pos 13 ] end end text:9");
+    x.gives(0, 0, "self:0 each child:* [ less pos 12 ] text:1 each next:* [ less pos 13 ] end end text:9");
     // 1, 11 and 12 for each of them while enough later ones are left
     due("144 steps", x.transform(), OK);
     due("their number", x.steps(), 1 + 11 + 11 * 12);
-    give(x, 0, 0, "self:0 each child:* [ less pos 12 ] text:1 each next:* [ less pos 13 ] text:2 end end "
+    x.gives(0, 0, "self:0 each child:* [ less pos 12 ] text:1 each next:* [ less pos 13 ] text:2 end end "
         + "apply child:* [ less pos 7 ]");
     due("150 steps", x.transform(), OK);
     due("their number", x.steps(), 150);
     due("their size", x.size(), 11 + 132 + 6);
-    give(x, 0, 0, "self:0 each child:* [ less pos 12 ] text:1 each next:* [ less pos 13 ] text:2 end end "
+    x.gives(0, 0, "self:0 each child:* [ less pos 12 ] text:1 each next:* [ less pos 13 ] text:2 end end "
         + "element:1 apply child:* [ less pos 8 ] end");
     due("a handled node too many", x.transform(), LONG);
     due("their number", x.steps(), 150);
     due("what was put out stays", x.size(), 11 + 132 + 1 + 6);
-    give(x, 0, 0, "self:0 each child:* [ less pos 12 ] text:1 each next:* [ less pos 13 ] text:2 end end "
+    x.gives(0, 0, "self:0 each child:* [ less pos 12 ] text:1 each next:* [ less pos 13 ] text:2 end end "
         + "each child:* [ less pos 8 ] text:1 end");
     due("an EACH too many", x.transform(), LONG);
     due("their size", x.size(), 11 + 132 + 6);
@@ -521,7 +478,7 @@ public final class PromiseTest {
   }
 
   private static void readingOutput() {
-    TemplateProcessor x = tree();
+    Probe x = tree();
     x.transform();
     due("size", x.size(), 4);
     due("output 3", x.output(3), 9);
@@ -544,10 +501,10 @@ public final class PromiseTest {
   }
 
   private static void manyOutputs() {
-    TemplateProcessor x = new TemplateProcessor();
+    Probe x = new Probe();
     x.open(0, 0);
     for (int k = 1; k < 24; k++) { x.open(1, k); x.close(); }
-    give(x, 0, 0, "self:0 each child:* value own value pos value last end");
+    x.gives(0, 0, "self:0 each child:* value own value pos value last end");
     due("transform", x.transform(), OK);
     due("size", x.size(), 69);
     due("output 57", x.output(57), 20);
@@ -557,15 +514,15 @@ public final class PromiseTest {
   }
 
   private static void order() {
-    TemplateProcessor x = new TemplateProcessor();
-    Notation.draft(x, "pos");
+    Probe x = new Probe();
+    x.draft("pos");
     due("rule: BAD first", x.rule(6, 0), BAD);
     due("select: node first", x.select(0), BAD);
     due("place as it was", x.place(), -1);
     x.open(0, 0);
     due("select", x.select(0), -SYNTAX);
     due("place", x.place(), 0);
-    Notation.draft(x, "pos pos");
+    x.draft("pos pos");
     due("number: node first", x.number(1), Long.MIN_VALUE);
     due("place as it was", x.place(), 0);
     due("number", x.number(0), Long.MIN_VALUE + 1);
@@ -581,11 +538,13 @@ public final class PromiseTest {
         PromiseTest::giving, PromiseTest::placing, PromiseTest::dropping, PromiseTest::selecting,
         PromiseTest::numbering, PromiseTest::choosing, PromiseTest::transforming,
         PromiseTest::readingOutput, PromiseTest::manyOutputs, PromiseTest::limits, PromiseTest::order};
+    int promise = 0;
+    Check.begin(300);
     for (Runnable test : tests) {
       promise++;
-      test.run();
+      Check.about("promise " + promise);
+      Check.run(test);
     }
-    System.out.println(wrong == 0 ? "all promises are kept" : wrong + " answers are not as due");
-    if (wrong != 0) System.exit(1);
+    Check.end("all promises are kept");
   }
 }
