@@ -28,7 +28,7 @@ final class DraftBoundaries {
 
   private static Probe tree() { return Probe.of(TREE); }
 
-  private static int[] range(int first, int last) {
+  static int[] range(int first, int last) {
     int[] nodes = new int[last - first + 1];
     for (int k = first; k <= last; k++) nodes[k - first] = k;
     return nodes;
@@ -120,7 +120,8 @@ final class DraftBoundaries {
       p.clear();
       due("the root of another document", p.open(0, 0), 0);
     });
-    holds("Building: open() begins a node as the last child of the innermost open one, close() ends that one.", () -> {
+    holds("Building: open() begins a node as the last child of the innermost open one, close() ends that "
+        + "one.", () -> {
       Probe p = new Probe();
       p.open(0, 0);
       p.selects("parent:*", 0);
@@ -138,6 +139,8 @@ final class DraftBoundaries {
       p.open(0, 4);
       p.selects("parent:*", 4, 0);
       p.selects("before:*", 4, 1);
+      Probe chain = Probe.chain(24);
+      for (int node = 1; node < 24; node++) chain.selects("parent:*", node, node - 1);
     });
   }
 
@@ -165,15 +168,18 @@ final class DraftBoundaries {
       p.isNumber("0", 0, 0);
       p.isNumber("-1", 0, -1);
     });
-    holds("1 POS 2 LAST 3 OWN 4 COUNT 5 SUM 6 FIRST 7 ADD 8 SUB 9 MUL 10 LESS 11 SAME 12 AND 13 OR 14 NOT", () -> {
+    holds("1 POS 2 LAST 3 OWN 4 COUNT 5 SUM 6 FIRST 7 ADD 8 SUB 9 MUL 10 LESS 11 SAME 12 AND 13 OR 14 "
+        + "NOT", () -> {
       Probe p = Probe.of("0=3 1=5 . 1=9 . .");
       long[] alone = {1, 1, 3};
-      for (int kind = 1; kind <= 3; kind++) kindIs(p, alone[kind - 1], kind);
+      for (int kind = 1; kind <= 3; kind++) numberIs(p, alone[kind - 1], kind, 0);
       long[] ofChildren = {2, 14, 5};
-      for (int kind = 4; kind <= 6; kind++) kindIs(p, ofChildren[kind - 4], kind, 15);
-      long[] of6And4 = {10, 2, 24, 0, 0, 1, 1};
-      for (int kind = 7; kind <= 13; kind++) kindIs(p, of6And4[kind - 7], kind, 0, 0);
-      kindIs(p, 0, 14, 0);
+      for (int kind = 4; kind <= 6; kind++) numberIs(p, ofChildren[kind - 4], kind, 0, 15, 14);
+      long[] of2And3 = {5, -1, 6, 1, 0, 1, 1};
+      for (int kind = 7; kind <= 13; kind++) numberIs(p, of2And3[kind - 7], kind, 0, 0, 2, 0, 3);
+      long[] of2And0 = {2, 2, 0, 0, 0, 0, 1};
+      for (int kind = 7; kind <= 13; kind++) numberIs(p, of2And0[kind - 7], kind, 0, 0, 2, 0, 0);
+      numberIs(p, 0, 14, 0, 0, 2);
     });
     holds("15 STEP (8 * axis + test; axis 0..8, test 0..6)", () -> {
       Probe p = new Probe();
@@ -221,19 +227,18 @@ final class DraftBoundaries {
     });
   }
 
-  /** The number of a draft of these kinds: a NUM is 6, a second one 4, a STEP leads to the children. */
-  private static void kindIs(Probe p, long want, int... kinds) {
+  /** The number of a draft of these tokens, each told as its kind and its value. */
+  private static void numberIs(Probe p, long want, int... tokens) {
     p.wipe();
-    int num = 6;
-    for (int kind : kinds) {
-      due("token " + kind, p.token(kind, kind == 15 ? 14 : num), true);
-      if (kind == 0) num -= 2;
+    for (int k = 0; k < tokens.length; k += 2) {
+      due("token " + tokens[k], p.token(tokens[k], tokens[k + 1]), true);
     }
-    due("number of kind " + kinds[0], p.number(0), want);
+    due("number of kind " + tokens[0], p.number(0), want);
   }
 
   private static void numberGrammar() {
-    holds("NUMBER := NUM | POS | LAST | OWN | (COUNT | SUM | FIRST) PATH | (7 .. 13) NUMBER NUMBER | NOT NUMBER", () -> {
+    holds("NUMBER := NUM | POS | LAST | OWN | (COUNT | SUM | FIRST) PATH | (7 .. 13) NUMBER NUMBER | NOT "
+        + "NUMBER", () -> {
       for (String word : "5 pos last own".split(" ")) {
         Probe p = tree();
         p.noNumber(word + " 5", 1);
@@ -326,7 +331,8 @@ final class DraftBoundaries {
   }
 
   private static void bodyGrammar() {
-    holds("BODY := { TEXT | ELEMENT BODY END | VALUE NUMBER | APPLY PATH | IF NUMBER BODY END | EACH PATH BODY END }", () -> {
+    holds("BODY := { TEXT | ELEMENT BODY END | VALUE NUMBER | APPLY PATH | IF NUMBER BODY END | EACH PATH BODY "
+        + "END }", () -> {
       Probe p = Probe.of("0=5");
       p.gives(0, 0, "self:*");
       p.puts(OK, 1);
@@ -423,6 +429,9 @@ final class DraftBoundaries {
       flat.isNumber("count child:*", 0, 23);
       flat.isNumber("sum child:*", 0, 276);
       flat.isNumber("first child:* [ same pos last ]", 0, 23);
+      flat.isNumber("first child:*", 23, 0);
+      p.isNumber("first parent:*", 1, 10);
+      p.isNumber("first self:*", 0, 10);
     });
   }
 
@@ -490,7 +499,8 @@ final class DraftBoundaries {
   }
 
   private static void axes() {
-    holds("A STEP from a node gives a LIST: of the nodes on its AXIS those that pass the TEST (0..5: that name; 6: all):", () -> {
+    holds("A STEP from a node gives a LIST: of the nodes on its AXIS those that pass the TEST (0..5: that name; 6: "
+        + "all):", () -> {
       Probe p = Probe.of("5=0 0=1 . 1=2 . 2=3 . 3=4 . 4=5 . 5=6 . 0=7 . .");
       p.selects("child:0", 0, 1, 7);
       for (int name = 1; name <= 5; name++) p.selects("child:" + name, 0, name + 1);

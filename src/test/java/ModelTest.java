@@ -25,6 +25,7 @@ public final class ModelTest {
 
     void same(String call, long got, long want) {
       calls++;
+      if (calls > 512) throw new IllegalStateException("a run makes more than 512 calls");
       told.append(call).append(' ').append(got).append('\n');
       if (got == want || apart) return;
       apart = true;
@@ -184,6 +185,8 @@ public final class ModelTest {
   }
 
   public static void main(String[] args) {
+    Check.about("the runs beside the model");
+    Check.begin(300);
     for (int run = 0; run < RUNS; run++) {
       seed = run;
       Pair p = new Pair();

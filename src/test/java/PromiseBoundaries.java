@@ -35,6 +35,8 @@ final class PromiseBoundaries {
 
   private static Probe tree() { return Probe.of(DraftBoundaries.TREE); }
 
+  private static int[] range(int first, int last) { return DraftBoundaries.range(first, last); }
+
   /** Numbers that are no node's in a document of so many. */
   private static int[] noNodes(int nodes) { return new int[] {-1, nodes, nodes + 1, 24, 32, MIN, MAX}; }
 
@@ -157,10 +159,24 @@ final class PromiseBoundaries {
       p.selects("child:*", 0);
       p.selects("parent:*", 0);
       due("one", p.clear(), 1);
+      // nothing of a document that was looked at is left in the next one of its size
+      Notation.build(p, "0=1 0=2 0=3 . . 0=4 . .");
+      p.selects("descendant:0", 0, 1, 2, 3);
+      p.selects("child:0", 1, 2);
+      Notation.build(p, "1=5 1=6 . 1=7 1=8 . . .");
+      p.selects("child:*", 0, 1, 2);
+      p.selects("child:*", 1);
+      p.selects("child:*", 2, 3);
+      p.selects("descendant:*", 1);
+      p.selects("descendant:0", 0);
+      p.selects("ancestor:*", 3, 0, 2);
+      p.selects("ahead:*", 3, 1);
     });
     section("Promise 5: relabel");
     holds("Gives a node another name and value.", () -> {
       Probe p = Probe.flat();
+      p.selects("self:0", 0, 0);
+      p.selects("child:1", 0, range(1, 23));
       due("the root", p.relabel(0, 5, MIN), true);
       due("the last", p.relabel(23, 0, MAX), true);
       p.isNumber("own", 0, MIN);
@@ -168,9 +184,17 @@ final class PromiseBoundaries {
       p.selects("self:5", 0, 0);
       p.selects("self:0", 0);
       p.selects("child:0", 0, 23);
+      p.selects("child:1", 0, range(1, 22));
       due("the same again", p.relabel(23, 0, MAX), true);
       p.isNumber("own", 22, 22);
       p.selects("self:1", 22, 22);
+      for (int name = 0; name < 6; name++) {
+        due("name " + name, p.relabel(22, name, name), true);
+        p.gives(name, 0, "self:" + name);
+        due("the rule for it", p.ruleFor(22), name);
+        p.selects("self:" + (name + 5) % 6, 22);
+      }
+      due("an open node", Probe.chain(2).relabel(1, 0, 0), true);
     });
     holds("False, changing nothing, if there is no such node or name is outside.", () -> {
       Probe p = tree();
@@ -250,6 +274,10 @@ final class PromiseBoundaries {
       due("thirty", p.wipe(), 30);
       p.token(0, 9);
       due("nothing of them is left behind the next", p.number(0), 9);
+      p.draft("parent:* ".repeat(30).trim());
+      due("thirty", p.wipe(), 30);
+      p.token(15, 14);
+      due("nothing of them is left behind the next", p.select(0), 0b10100010);
       p.token(18, 0);
       due("refused ones do not count", p.wipe(), 1);
     });
@@ -413,6 +441,11 @@ final class PromiseBoundaries {
       for (int r = 0; r < 6; r++) due("absent " + r, p.drop(r), false);
       for (int r = 0; r < 6; r++) p.gives(r, r, "self:*");
       for (int r : NO_RULES) due("outside " + r, p.drop(r), false);
+      for (int r = 0; r < 6; r++) {
+        due("the rule for it", p.ruleFor(0), 5);
+        due("there " + r, p.drop(r), true);
+      }
+      for (int r = 0; r < 6; r++) p.gives(r, r, "self:*");
       for (int r = 5; r >= 0; r--) {
         due("the rule for it", p.ruleFor(0), r);
         due("there " + r, p.drop(r), true);
@@ -468,7 +501,8 @@ final class PromiseBoundaries {
 
   private static void number() {
     section("Promise 12: number");
-    holds("The draft (it stays) must be a NUMBER: what it is for the node, with POSITION 1 and SIZE 1, as a long.", () -> {
+    holds("The draft (it stays) must be a NUMBER: what it is for the node, with POSITION 1 and SIZE 1, as a "
+        + "long.", () -> {
       Probe p = Probe.flat();
       p.isNumber("-2147483648", 0, -2147483648L);
       p.isNumber("2147483647", 0, 2147483647L);

@@ -54,6 +54,9 @@ final class TransformBoundaries {
       due("second of its parent", p.ruleFor(5), 0);
       due("second of its parent", p.ruleFor(3), 0);
       due("first of its parent", p.ruleFor(1), -1);
+      p.gives(0, 0, "self:1 child:2 child:0");
+      due("from neither the root nor its parent", p.ruleFor(4), 0);
+      due("a node on the way", p.ruleFor(3), -1);
       Probe chain = Probe.chain(24);
       chain.gives(0, 0, "self:* [ not count parent:* ] descendant:*");
       due("from the farthest ancestor alone", chain.ruleFor(23), 0);
@@ -124,7 +127,8 @@ final class TransformBoundaries {
       p.gives(2, 0, "self:0 apply child:* [ less pos 4 ]");
       p.puts(OK, 4, 7, 2, 3, 3, 3);
     });
-    holds("if there is none: its value is put out if it has no children; else the list of its children is handled.", () -> {
+    holds("if there is none: its value is put out if it has no children; else the list of its children is "
+        + "handled.", () -> {
       Probe p = Probe.of("0=1");
       p.puts(OK, 1, 1);
       p.open(0, 2);
@@ -153,8 +157,8 @@ final class TransformBoundaries {
     });
     holds("VALUE: the number is put out.", () -> {
       Probe p = Probe.of("0=-2147483648");
-      p.gives(0, 0, "self:* value own value 0 value sub own 1 value count child:* value first child:*");
-      p.puts(OK, 1, MIN, 0, MAX, 0, 0);
+      p.gives(0, 0, "self:* value own value 0 value -5 value sub own 1 value count child:* value first child:*");
+      p.puts(OK, 1, MIN, 0, -5, MAX, 0, 0);
     });
     holds("APPLY: the list of the nodes that the path selects, in the order of the document, is handled.", () -> {
       Probe p = tree();
@@ -165,6 +169,10 @@ final class TransformBoundaries {
       p.puts(OK, 6, 5, 1, 5, 6, 2, 5, 7, 3, 5, 2, 4, 5, 8, 5, 5);
       p.gives(1, 1, "self:0 [ count child:* ] text:1 apply child:5 apply parent:* text:2");
       p.puts(OK, 1, 1, 2);
+      p.gives(1, 1, "self:0 [ count child:* ] apply child:3");
+      p.gives(2, 1, "self:3 apply before:* text:3");
+      p.puts(OK, 4, 1, 1, 2, 2, 2, 2, 3);
+      p.drop(2);
       // two children lead to it, and it is handled once
       p.gives(1, 1, "self:0 apply child:1");
       p.gives(0, 0, "self:1 value own");
@@ -188,8 +196,11 @@ final class TransformBoundaries {
       p.puts(OK, 3, 1, 1, 2, 2, 2, 2);
       p.gives(0, 0, "self:* text:1 each child:5 text:9 end text:2 each child:* parent:* value own end text:3");
       p.puts(OK, 2, 1, 2, 10, 3);
+      p.gives(0, 0, "self:0 [ not count child:* ] each ancestor:* value own value pos end each ahead:* value own end");
+      p.puts(OK, 12, 5, 10, 1, 1, 2, 6, 3, 5, 8, 9);
       // an inner list has positions of its own, and behind it the outer ones hold again
-      p.gives(0, 0, "self:* each child:1 each child:* value pos value last end value pos value last end value pos value last");
+      p.gives(0, 0, "self:* each child:1 each child:* value pos value last end value pos value last end "
+          + "value pos value last");
       p.puts(OK, 6, 1, 2, 2, 2, 1, 2, 1, 1, 2, 2, 1, 1);
     });
   }
@@ -232,7 +243,8 @@ final class TransformBoundaries {
   }
 
   private static void lists() {
-    holds("LISTS (handled ones, and those of EACH) may be at work within one another 12 deep (the root's is the first):", () -> {
+    holds("LISTS (handled ones, and those of EACH) may be at work within one another 12 deep (the root's is the "
+        + "first):", () -> {
       Probe.chain(12).puts(OK, 12, 11);
       Probe applied = Probe.chain(12);
       applied.gives(0, 0, "self:0 apply child:* text:3");
