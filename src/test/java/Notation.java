@@ -1,4 +1,5 @@
 import java.util.List;
+import java.util.stream.Stream;
 
 /** Documents and drafts in words, so that the tests can be read. */
 final class Notation {
@@ -9,6 +10,16 @@ final class Notation {
       "next", "before", "behind", "ahead");
 
   private Notation() { }
+
+  /** The names of all kinds and all axes. */
+  static List<String> words() {
+    return Stream.concat(KINDS.stream(), AXES.stream()).filter(word -> !word.equals("-")).toList();
+  }
+
+  /** Of a kind or an axis; -1 if it is neither. */
+  static int numberOf(String word) {
+    return AXES.contains(word) ? AXES.indexOf(word) : KINDS.indexOf(word);
+  }
 
   /** "7" is a NUM, "child:2" and "child:*" are STEPs, "text:5" and "element:1" have a value. */
   static int[] token(String word) {
